@@ -187,6 +187,12 @@ public final class PromiseTest {
             zero.weigh(0, a, 0);
         }
         due("7: a sum of 0 is a sum", zero.best(), 0);
+        LabelChain first = new LabelChain(2);
+        first.weighCouple(0, 0, 2);
+        due("7: the first labelling alone", first.best(), 4);
+        LabelChain last = new LabelChain(2);
+        last.weighCouple(2, 2, 2);
+        due("7: the last labelling alone", last.best(), 4);
     }
 
     private static void promise8Label() {
@@ -255,6 +261,13 @@ public final class PromiseTest {
         due("10: none", x.ranked(0), NONE);
         due("10: none, last", x.ranked(7), NONE);
 
+        LabelChain low = new LabelChain(1);
+        for (int a = 0; a < 3; a++) {
+            low.weigh(0, a, 0);
+        }
+        due("10: a sum of 0 is a sum", low.ranked(2), 0);
+        due("10: no sum follows it", low.ranked(3), NONE);
+
         LabelChain different = new LabelChain(2);
         for (int a = 0; a < 3; a++) {
             different.weigh(0, a, 3 * a);
@@ -287,6 +300,11 @@ public final class PromiseTest {
         LabelChain zero = new LabelChain(1);
         zero.weigh(0, 1, 0);
         due("11: a sum of 0 is a sum", zero.bestThrough(0, 1), 0);
+        LabelChain ends = new LabelChain(2);
+        ends.weighCouple(0, 0, 2);
+        ends.weighCouple(2, 2, 3);
+        due("11: the first labelling alone", ends.bestThrough(1, 0), 4);
+        due("11: the last labelling alone", ends.bestThrough(1, 2), 5);
     }
 
     private static void weighAllNine(LabelChain x) {
@@ -347,6 +365,8 @@ public final class PromiseTest {
         x.weigh(2, 2, 4);
         x.weighCouple(0, 1, 5);
         due("14: (0, 1) at 0", x.throughCouple(0, 1), 2 * 5 * 3 * (1 + 1 + 4));
+        due("14: (0, 0) at 0", x.throughCouple(0, 0), 2 * (1 + 5 + 4));
+        due("14: (0, 0) at 1", x.throughCouple(1, 0), 2 + 1 + 1);
         due("14: (1, 0) at 0", x.throughCouple(0, 3), 1 * (1 + 5 + 4));
         due("14: (0, 1) at 1", x.throughCouple(1, 1), (2 + 1 + 1) * 5);
         due("14: (2, 2) at 1", x.throughCouple(1, 8), (2 + 1 + 1) * 4);
